@@ -239,6 +239,11 @@ final class PromiseTest {
         Due.is("17: death", x.brotherOf(1, 5), 0);
         Due.is("17: less 0", read(x, "less 0"), 1);
         Due.is("17: less 0", x.needOf(2), 0);
+        read(x, "need 15");
+        read(x, "need 1");
+        Due.is("17: no byte of the tape ahead", x.needOf(4), 1);
+        Due.is("17: blanks where they may be", read(x, "  need   2  ;  less3;age0 5"), 3);
+        Due.is("17: NUMBERS", x.needOf(5) * 100 + x.needOf(6) * 10 + x.brotherOf(0, 3), 175);
     }
 
     private static void fault(VowOfOneWord x, String text, int place) {
@@ -261,6 +266,15 @@ final class PromiseTest {
         fault(x, "need", 4);
         fault(x, "need ", 5);
         fault(x, "needs 1", 0);
+        fault(x, "needz 1", 0);
+        fault(x, "needa1", 0);
+        fault(x, "feed 1", 0);
+        fault(x, "nee", 0);
+        fault(x, "need 1 z", 7);
+        fault(x, "need/", 4);
+        fault(x, "need:", 4);
+        fault(x, "need 1`", 6);
+        fault(x, "need 1{", 6);
         fault(x, " nee d 1", 1);
         fault(x, "need 1000", 5);
         fault(x, "need 0001", 5);
@@ -517,6 +531,11 @@ final class PromiseTest {
         Due.is("32: without the NOT", x.without(4, 0), 16);
         Due.is("32: without a NAME of 5", x.without(3, 0), 8 | 32);
         Due.is("33: mightiest, the first", x.mightiest(), 0);
+        // by 0 4 1 5 3 6
+        x.need(-2);
+        Due.is("20: by six", x.shortest(-2, 6, false, -1), 6);
+        Due.is("31: not by six", x.met(), 1 | 4 | 8 | 16 | 32);
+        Due.is("35: not by six", x.lost(6, -1), 0);
         Due.is("32: BAD", x.without(7, 0) + x.without(-1, 0) + x.without(0, 2) + x.without(0, -1), -8);
         x.dies(4);
         Due.is("31: met then", x.met(), 1 | 4 | 8 | 32);
@@ -591,6 +610,17 @@ final class PromiseTest {
         }
         Due.is("34: FULL", x.choice(0), -6);
         Due.is("34: BAD ahead", x.choice(2), -2);
+        VowOfOneWord w = new VowOfOneWord();
+        w.brother(1, 7, 0);
+        w.brother(1, 5, 0);
+        w.brother(2, 9, 0);
+        w.brother(2, 8, 0);
+        w.brother(2, 6, 0);
+        // 7 times 9, and 5 times 8; 7 times 8, and 5 times 6; 7 times 9, and 5 times 6
+        w.need(103);
+        w.need(86);
+        w.need(93);
+        Due.is("34: an AND", w.choice(0) * 10 + w.choice(1), 503);
         VowOfOneWord y = seven();
         y.feud(0, 1, true);
         y.need(17);
@@ -736,6 +766,20 @@ final class PromiseTest {
         Due.is("40: six have one column", y.stands(0, 6, 1), 0);
         // 5 from 55 to 3 goes 7, 4 from 44 to 1 goes 7
         Due.is("40: six", y.stands(0, 6, 0), 7);
+        Due.is("41: six", y.done(0, 6), 1);
+        Due.is("41: the sixth", y.brotherOf(6, 2), 5);
+        Due.is("41: the second", y.brotherOf(4, 2), 1);
+        y.goes(0, 4);
+        y.goes(1, 5);
+        put(y, 0, 0, 1);
+        Due.is("40: the last column", y.stands(0, 2, 1), 4);
+        y.goes(0, 55);
+        y.goes(4, 55);
+        y.goes(1, 55);
+        put(y, 0, 0, 4, 1);
+        // from 3: 5 and 2, 1, 0
+        Due.is("40: not beyond the rock", y.stands(0, 3, 1), 3);
+        Due.is("40: row and column", y.stands(0, 3, 0), 7);
     }
 
     private static void done() {
@@ -774,11 +818,30 @@ final class PromiseTest {
         x.feud(1, 3, true);
         // 0 1 3 and 3 1 0 have two now; 2 0 1 has one, so has 2 3 1, so have 3 4 1, 3 4 6
         Due.is("42: most", x.peace(3), 34);
+        VowOfOneWord z = seven();
+        z.feud(0, 1, true);
+        z.feud(5, 3, true);
+        // with 5 3: 0 1 5 3 6, 0 6 5 3 1, and 3 6 5 0 1 with 0 1, as 2 0 1 2 3 has none
+        Due.is("42: by five", z.peace(5), 1);
+        z.feud(0, 1, false);
+        Due.is("42: by five", z.peace(5), 35);
         VowOfOneWord y = seven();
         y.feud(2, 5, true);
         y.feud(1, 4, true);
         y.dies(4);
         Due.is("42: of several the first", y.peace(3), 14);
+    }
+
+    /** One of 20, so of 21 in a year, and a draw. */
+    private static void drawn(int draw, int died) {
+        VowOfOneWord x = new VowOfOneWord();
+        x.brother(0, 0, 0);
+        int seed = 0;
+        while ((seedBehind(seed) >>> 16) % 200 != draw) {
+            seed++;
+        }
+        x.seed(seed);
+        Due.is("43: a draw of " + draw, x.years(1), died);
     }
 
     private static int seedBehind(int seed) {
@@ -800,6 +863,8 @@ final class PromiseTest {
         Due.is("43: one year", x.years(1), (dies0 ? 1 : 0) + (dies1 ? 1 : 0));
         Due.is("43: first", x.brotherOf(0, 5) * 100 + x.brotherOf(0, 3), dies0 ? 21 : 121);
         Due.is("43: second", x.brotherOf(1, 5) * 1000 + x.brotherOf(1, 3), dies1 ? 99 : 1099);
+        drawn(21, 0);
+        drawn(20, 1);
         Due.is("44: the one ahead", x.seed(7), two);
         Due.is("44: seed", x.seed(-5), 7);
         Due.is("44: seed", x.status(7), -5);
@@ -841,6 +906,8 @@ final class PromiseTest {
         x.show(1, 3);
         x.show(2, 1);
         x.show(3, 2);
+        x.show(7, 2);
+        x.row(4, 0, 0);
         x.set(0, 1, 3);
         Due.is("46: said ahead", x.said(5, 0), 0);
         Due.is("46: back", x.back(), 1);
@@ -858,8 +925,13 @@ final class PromiseTest {
         Due.is("46: no such brother any more", x.holds(1), -1);
         Due.is("46: the one of that number", x.holds(2), 11);
         Due.is("46: no such brother any more", x.holds(3), -1);
+        Due.is("46: no such brother any more", x.holds(7), -1);
+        Due.is("46: a row", x.holds(4), 0);
         x.dies(1);
+        x.brother(0, 0, 0);
+        x.show(0, 2);
         Due.is("46: back once more", x.back(), 1);
+        Due.is("46: no such brother any more", x.holds(0), -1);
         Due.is("46: he lives", x.status(1), 2);
         x.dies(1);
         x.image();
