@@ -12,7 +12,6 @@ final class RandomRunsTest {
     private final Random random;
     private final VowOfOneWord real = new VowOfOneWord();
     private final Oracle due = new Oracle();
-    private final StringBuilder told = new StringBuilder();
     private final String name;
     private int calls;
 
