@@ -105,8 +105,8 @@ public final class VowOfOneWord {
         if (!now.has(b) || !Grammar.isUnder(now.kinds[b], kind)) {
             return refuse(OTHER);
         }
-        // What he is taken for only asks whether he may be: he still says what his own kind says.
-        return now.kinds[b] == Grammar.WORD ? now.amounts[b] : now.livingOfKind(now.kinds[b]);
+        // What he is taken for decides what is asked of him; how many are of his kind goes by his own.
+        return kind == Grammar.WORD ? now.amounts[b] : now.livingOfKind(now.kinds[b]);
     }
 
     // ---- the rock

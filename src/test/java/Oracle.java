@@ -319,7 +319,7 @@ final class Oracle {
         if (under.indexOf('0' + m.kind) < 0) {
             return no(-3);
         }
-        if (m.kind == 0) {
+        if (kind == 0) {
             return m.a;
         }
         int n = 0;
