@@ -50,6 +50,7 @@ final class EdgesTest {
         without();
         mightiest();
         choice();
+        choiceAgain();
         lost();
         ran();
         meant();
@@ -110,7 +111,7 @@ final class EdgesTest {
             Scene.fine("0 at first", 0, x -> after(x.row(0, k, 40), 1, digits(x, 0, 40)));
         }
         Scene.fine("0 again where 7 was", 0, x -> after(x.row(3, 0, 40), 1, x.element(3, 39)));
-        Scene.fine("0 again where 1 was", 0, x -> after(x.row(0, 2, 3), 1, digits(x, 0, 3)));
+        Scene.fine("0 again where 2 0 4 was", 0, x -> after(x.row(5, 2, 3), 1, digits(x, 5, 3)));
         Scene.fine("longer than the one ahead", 1, x -> after(x.row(0, 2, 40), 1, x.set(0, 39, 1)));
         Scene.fine("shorter, and long again", 0, x -> after(x.row(3, 0, 1), 1, after(x.row(3, 0, 40), 1, x.element(3, 39))));
         Scene.fine("the SHELVES beside it", 12, x -> after(x.row(0, 0, 1), 1, x.holds(1)));
@@ -811,6 +812,23 @@ final class EdgesTest {
         Scene.asks("the least by 5 of 10", -819, x -> x.said(5, 1));
         Scene.asks("the greatest by 4", 819, x -> x.said(4, 2));
         Scene.asks("the greatest by 5 of 10, not 891", 819, x -> x.said(5, 2));
+        Scene.at(21, EdgesTest::two);
+        Scene.asks("one MEANING", 1, x -> x.said(2, 0));
+        Scene.asks("the least of one", 12, x -> x.said(2, 1));
+        Scene.asks("the greatest of one", 12, x -> x.said(5, 2));
+        // 0 1: 12; 2 1: 20; 0 1 2: 17; 2 1 0: 23
+        Scene.at(21, () -> three(1, 5));
+        Scene.asks("the greatest by 2, the last", 20, x -> x.said(2, 2));
+        Scene.asks("the greatest by 3, the last", 23, x -> x.said(3, 2));
+        // 0 1: 12; 2 1: 4; 0 1 2: 13; 2 1 0: 7
+        Scene.at(21, () -> three(1, 1));
+        Scene.asks("the greatest by 2, the first", 12, x -> x.said(2, 2));
+        Scene.asks("the greatest by 3", 13, x -> x.said(3, 2));
+        Scene.asks("the least by 3, by 2", 4, x -> x.said(3, 1));
+        // 0 1: 12; 0 2 1: -12
+        Scene.at(21, () -> three(4, 5));
+        Scene.asks("the least by 2, not by 3", 12, x -> x.said(2, 1));
+        Scene.asks("the least by 3, a NOT", -12, x -> x.said(3, 1));
         for (int i = 0; i < 2; i++) {
             Scene.at(21, i == 0 ? Scene::empty : Scene::dead);
             Scene.asks("of nobody", 0, x -> x.said(5, 0));
@@ -834,6 +852,7 @@ final class EdgesTest {
         Scene.no("what -1", -2, x -> x.many(2, -1));
         Scene.no("what 2", -2, x -> x.many(2, 2));
         Scene.no("both", -2, x -> x.many(7, 2));
+        Scene.fine("who feuds with one who isn't in it", 4, x -> after(x.feud(3, 6, false), 1, after(x.feud(3, 0, true), 0, x.many(2, 1))));
         Scene.at(22, Scene::ten);
         // N D 12; M N D 12, N T D 12, N D N 36; M N T D 12, M N D N 36, N T D N 36, N D M N 36;
         // M N T D N 36, N T D M N 36, N D A N D 72; with M 72, with T 72, with N 144, in the first CLAUSE or the second
@@ -859,6 +878,10 @@ final class EdgesTest {
         Scene.fine("who die don't begin", 4 + 8, x -> after(x.dies(0), 7, x.who(0)));
         // N D A N D wants two NAMES
         Scene.fine("an AND that none may stand by", 32 + 128, x -> after(x.dies(0), 7, x.who(2)));
+        Scene.at(23, EdgesTest::two);
+        Scene.asks("of one SAYING", 1, x -> x.who(0));
+        Scene.asks("of one SAYING, the end", 2, x -> x.who(1));
+        Scene.asks("of one SAYING, nobody else", 0, x -> x.who(2));
         Scene.at(23, Scene::ten);
         Scene.asks("begin", 1 + 2 + 4 + 8 + 128, x -> x.who(0));
         Scene.asks("end", 127, x -> x.who(1));
@@ -880,6 +903,12 @@ final class EdgesTest {
         Scene.no("to 10000", TELL - 2, x -> x.nearest(10000));
         Scene.no("to -10000", TELL - 2, x -> x.nearest(-10000));
         Scene.no("far", TELL - 2, x -> x.nearest(LEAST));
+        Scene.at(24, EdgesTest::two);
+        Scene.asks("one MEANING", 12, x -> x.nearest(-9999));
+        Scene.at(24, () -> three(1, 5));
+        Scene.asks("12, 20, 17, 23", 20, x -> x.nearest(20));
+        Scene.asks("12 or 17", 17, x -> x.nearest(15));
+        Scene.asks("17 or 20", 17, x -> x.nearest(18));
         Scene.at(24, Scene::ten);
         // 81 and 90; -81 and 81; 162 and 171
         Scene.asks("to 85", 81, x -> x.nearest(85));
@@ -929,7 +958,10 @@ final class EdgesTest {
         Scene.asks("10 in one", 23, x -> x.crowd());
         Scene.at(26, Scene::empty);
         Scene.asks("of nobody", 0, x -> x.crowd());
-        Scene.fine("of one", 55, x -> after(x.brother(0, 0, 55), 0, x.crowd()));
+        for (int i = 0; i < 36; i++) {
+            int cell = i / 6 * 10 + i % 6;
+            Scene.fine("of one in " + cell, cell, x -> after(x.brother(0, 0, cell), 0, x.crowd()));
+        }
         Scene.at(26, Scene::dead);
         Scene.asks("of the dead", 0, x -> x.crowd());
     }
@@ -944,8 +976,10 @@ final class EdgesTest {
         Scene.fine("one 4 steps off: 2 each, the least", 3, x -> after(x.goes(0, 5), 23, x.gather()));
         Scene.at(27, Scene::empty);
         Scene.asks("of nobody", 0, x -> x.gather());
-        Scene.fine("of one", 55, x -> after(x.brother(0, 0, 55), 0, x.gather()));
-        Scene.fine("of one at last", 0, x -> after(x.brother(0, 0, 0), 0, x.gather()));
+        for (int i = 0; i < 36; i++) {
+            int cell = i / 6 * 10 + i % 6;
+            Scene.fine("of one in " + cell, cell, x -> after(x.brother(0, 0, cell), 0, x.gather()));
+        }
         Scene.at(27, Scene::dead);
         Scene.asks("of the dead", 0, x -> x.gather());
     }
@@ -1002,6 +1036,10 @@ final class EdgesTest {
         Scene.at(30, Scene::empty);
         Scene.asks("of nobody", 0, x -> x.longest(0) + x.longest(1));
         Scene.no("of nobody, what 2", -2, x -> x.longest(2));
+        Scene.at(30, EdgesTest::two);
+        Scene.asks("of one SAYING", 2, x -> x.longest(0));
+        Scene.asks("of one SAYING, CALM", 2, x -> x.longest(1));
+        Scene.fine("of one SAYING, not CALM", 0, x -> after(x.feud(0, 1, true), 0, x.longest(1)));
         Scene.at(30, EdgesTest::tenOfAKind);
         Scene.asks("of 10 ANDS", 0, x -> x.longest(0));
     }
@@ -1019,6 +1057,21 @@ final class EdgesTest {
         Scene.at(31, EdgesTest::eightNeeds);
         Scene.asks("8 alike", 255, x -> x.met());
         Scene.fine("CALM or not", 255, x -> after(x.feud(0, 1, true), 0, x.met()));
+    }
+
+    /** NAME 0 of 3 and DEED 1 of 4: 12 is all that can be said. */
+    private static VowOfOneWord two() {
+        VowOfOneWord x = new VowOfOneWord();
+        x.brother(1, 3, 0);
+        x.brother(2, 4, 0);
+        return x;
+    }
+
+    /** And BROTHER 2. */
+    private static VowOfOneWord three(int kind, int a) {
+        VowOfOneWord x = two();
+        x.brother(kind, a, 0);
+        return x;
     }
 
     /** A NAME of 0 and a DEED of 0, and 8 NEEDS of 0. */
@@ -1098,6 +1151,24 @@ final class EdgesTest {
         Scene.fine("one more isn't enough", 0, x -> after(x.need(0), 0, x.choice(0) + x.choice(1)));
     }
 
+    private static void choiceAgain() {
+        Scene.at(34, EdgesTest::one);
+        Scene.fine("when there is nothing to be better in", 0, x -> {
+            x.brother(2, 9, 0);
+            x.need(81);
+            int first = x.choice(0);
+            x.brother(1, 9, 0);
+            return after(first, 19, x.choice(0));
+        });
+        Scene.fine("how many, then", 1, x -> {
+            x.brother(2, 9, 0);
+            x.need(81);
+            int first = x.choice(1);
+            x.brother(1, 9, 0);
+            return after(first, 1, x.choice(1));
+        });
+    }
+
     /** 8 DEEDS of 9 and a WORD; 8 NEEDS of 81. */
     private static VowOfOneWord nine() {
         VowOfOneWord x = new VowOfOneWord();
@@ -1132,10 +1203,27 @@ final class EdgesTest {
         // 81 by the DEEDS 4 and 5 alone, once 6 is dead
         Scene.fine("two deeds left", 2, x -> after(x.dies(6), 9, x.lost(0, -1)));
         Scene.fine("they", 45, x -> after(x.dies(6), 9, 10 * x.lost(0, 0) + x.lost(0, 1)));
+        // 2 3 7 5 6 8 is 12 less 10, by 6: it doesn't count
+        int[] kinds = {1, 1, 1, 2, 1, 4, 5, 2, 2};
+        int[] amounts = {1, 1, 3, 4, 5, 0, 0, 2, 2};
+        Scene.at(35, () -> sayers(kinds, amounts, 2));
+        Scene.asks("2 by one of 0, 1 and one of 7, 8", 2, x -> x.lost(0, -1));
+        Scene.asks("two who leave it to six", 1, x -> 10 * x.lost(0, 0) + x.lost(0, 1));
+        Scene.fine("one who leaves it to six", 0, x -> after(x.dies(1), 8, x.lost(0, 0)));
+        Scene.fine("just one", 1, x -> after(x.dies(1), 8, x.lost(0, -1)));
         Scene.at(35, Scene::empty);
         Scene.no("of no NEEDS", -2, x -> x.lost(0, -1));
         Scene.at(35, Scene::dead);
         Scene.asks("of the dead", 0, x -> x.lost(0, -1));
+    }
+
+    private static VowOfOneWord sayers(int[] kinds, int[] amounts, int need) {
+        VowOfOneWord x = new VowOfOneWord();
+        for (int b = 0; b < kinds.length; b++) {
+            x.brother(kinds[b], amounts[b], 0);
+        }
+        x.need(need);
+        return x;
     }
 
     private static void ran() {
@@ -1160,6 +1248,11 @@ final class EdgesTest {
         Scene.no("what -1", -2, x -> x.ran(0, -1));
         Scene.no("what 3", -2, x -> x.ran(0, 3));
         Scene.no("both", -2, x -> x.ran(127, 3));
+        Scene.at(36, EdgesTest::two);
+        Scene.asks("all there are", 1, x -> x.ran(3, 0));
+        Scene.asks("all there are: unlike", 1, x -> x.ran(3, 1));
+        Scene.asks("all there are: the first", 0, x -> x.ran(3, 2));
+        Scene.asks("one says nothing", 0, x -> x.ran(1, 0) + x.ran(2, 0) + x.ran(1, 1) + x.ran(2, 1));
         Scene.at(36, Scene::ten);
         // 0 1 4 5 7 9
         Scene.asks("6 of 10: all mean 891", 1, x -> x.ran(691, 1));
@@ -1187,6 +1280,9 @@ final class EdgesTest {
         Scene.no("BROTHER 9", -2, x -> x.meant(512, 46));
         Scene.no("BROTHER 31", -2, x -> x.meant(LEAST, 46));
         Scene.no("both", -2, x -> x.meant(127, 10000));
+        Scene.at(37, EdgesTest::two);
+        Scene.asks("all there are", 1, x -> x.meant(3, 12));
+        Scene.asks("one says nothing", 0, x -> x.meant(1, 12) + x.meant(2, 12) + x.meant(1, 0));
         Scene.at(37, Scene::ten);
         Scene.asks("6 of 10", 1, x -> x.meant(691, 891));
         Scene.no("7 of 10", -2, x -> x.meant(691 + 4, 891));
@@ -1319,6 +1415,12 @@ final class EdgesTest {
         Scene.no("SOON of 7", -5, x -> x.stands(5, 7, 0));
         Scene.no("the COLUMN of 7", -5, x -> x.stands(5, 7, 1));
         Scene.asks("FEUDS of 7", 2, x -> x.stands(5, 7, 2));
+        Scene.fine("0, who isn't in it, and the first and last of it", 0, x -> {
+            Scene.put(x, 0, 3, 1);
+            x.feud(0, 3, true);
+            x.feud(0, 1, true);
+            return x.stands(0, 2, 2);
+        });
         Scene.at(40, Scene::ten);
         Scene.fine("6, from COLUMN 0", 0, x -> {
             Scene.put(x, 0, 0, 4, 9, 7, 1, 5);
@@ -1362,6 +1464,11 @@ final class EdgesTest {
         Scene.fine("where they stand", 10203, x -> after(x.done(0, 3), 1,
             10000 * x.brotherOf(0, 2) + 100 * x.brotherOf(1, 2) + x.brotherOf(3, 2)));
         Scene.fine("who isn't in it", 22, x -> after(x.done(0, 3), 1, x.brotherOf(2, 2)));
+        Scene.fine("0, who isn't in it", 55, x -> {
+            x.goes(0, 55);
+            Scene.put(x, 0, 3, 1);
+            return after(x.done(0, 2), 1, x.brotherOf(0, 2));
+        });
         Scene.fine("SEED stays", 77, x -> after(x.done(0, 3), 1, x.status(7)));
         Scene.at(41, Scene::ten);
         Scene.fine("6 fill the ROW", 5, x -> {
@@ -1390,6 +1497,23 @@ final class EdgesTest {
             x.feud(3, 5, true);
             x.feud(1, 5, true);
             return x.peace(5);
+        });
+        // of 5: 2 0 4 1 3, 3 4 1 2 0 have 1 4 alone; 2 3 4 6 0, 0 4 6 2 3 have 2 3 alone; of 4 more have 2 3
+        Scene.fine("of 5, not of 4", 14, x -> {
+            x.feud(1, 4, true);
+            x.feud(2, 3, true);
+            return x.peace(5);
+        });
+        Scene.fine("of 4", 23, x -> {
+            x.feud(1, 4, true);
+            x.feud(2, 3, true);
+            return x.peace(4);
+        });
+        // 3 4 1, 3 4 6 have 3 4; 3 1 0, 3 6 0 don't have 0 and 3 side by side
+        Scene.fine("of 3, the first of a SAYING stands by one alone", 34, x -> {
+            x.feud(0, 3, true);
+            x.feud(3, 4, true);
+            return x.peace(3);
         });
         Scene.fine("of 3, with no AND: the first", 15, x -> {
             x.feud(3, 5, true);
@@ -1552,8 +1676,29 @@ final class EdgesTest {
             return after(x.back(), 1, x.holds(7));
         });
         Scene.fine("twice", 2, x -> after(x.back(), 1, after(x.back(), 1, x.status(2))));
+        Scene.at(46, Scene::empty);
+        // beside a NAME of 2 and a DEED of 5 first this one was asked about, then that one: the least, the greatest
+        int[][] others = {
+            {1, 4, 2, 3, 6, 10}, {2, 3, 1, 4, 10, 22}, {1, 9, 2, 0, 0, 10}, {2, 0, 1, 9, 10, 47},
+            {1, 5, 1, 4, 10, 22}, {0, 5, 1, 4, 10, 22}, {1, 4, 0, 5, 10, 10},
+        };
+        for (int[] other : others) {
+            Scene.fine("another of that number, the least", other[4], x -> instead(x, other).said(5, 1));
+            Scene.fine("another of that number, the greatest", other[5], x -> instead(x, other).said(5, 2));
+        }
         Scene.at(46, EdgesTest::keptNobody);
         Scene.fine("SHELVES of no BROTHERS", 0, x -> after(x.back(), 1, x.status(8)));
+    }
+
+    private static VowOfOneWord instead(VowOfOneWord x, int[] other) {
+        x.brother(1, 2, 0);
+        x.brother(2, 5, 0);
+        x.image();
+        x.brother(other[0], other[1], 0);
+        x.said(5, 0);
+        x.back();
+        x.brother(other[2], other[3], 0);
+        return x;
     }
 
     /** Nobody is kept; then 8 stand on all SHELVES. */

@@ -98,6 +98,10 @@ final class Scene {
                 lookAtRow(x, s, all);
             }
         }
+        all.add((long) x.met());
+        all.add((long) x.many(6, 1));
+        all.add((long) x.alone());
+        all.add((long) x.gather());
         all.add((long) x.rock());
         count(x, all);
         all.add((long) x.back());
