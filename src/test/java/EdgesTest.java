@@ -55,6 +55,7 @@ final class EdgesTest {
         ran();
         meant();
         judge();
+        judgeWords();
         judgeOfTen();
         means();
         stands();
@@ -1339,6 +1340,40 @@ final class EdgesTest {
         Scene.fine("of nobody", 0, x -> after(x.row(0, 0, 40), 1, x.judge(0, 40)));
         Scene.fine("no word of nobody", 0, x -> after(x.row(0, 0, 0), 1, x.judge(0, 0)));
         Scene.no("of NOTHING", -4, x -> x.judge(0, 0));
+    }
+
+    /** After each beginning of a SAYING: the words that can stand there, and that no others can. */
+    private static void judgeWords() {
+        String[][] goesOn = {
+            {"", "MN"}, {"M", "N"}, {"N", "DT"}, {"MN", "DT"}, {"NT", "D"}, {"MNT", "D"},
+            {"ND", "MNA"}, {"MND", "MNA"}, {"NTD", "MNA"}, {"NDM", "N"}, {"NTDM", "N"}, {"NDN", "A"}, {"NDMN", "A"},
+            {"NDA", "MN"}, {"NDNA", "MN"}, {"NDMNA", "MN"}, {"NDAM", "N"}, {"NDNAM", "N"}, {"NDAN", "DT"}, {"NDAMN", "DT"},
+            {"NDANT", "D"}, {"NDAND", "MNA"}, {"NDANDM", "N"}, {"NDANDN", "A"}, {"NDANDA", "MN"}, {"NDNANDNA", "MN"},
+        };
+        for (String[] row : goesOn) {
+            int length = row[0].length();
+            for (char word : "WNDMTA".toCharArray()) {
+                boolean isFine = row[1].indexOf(word) >= 0;
+                boolean isWhole = isFine && (word == 'D' || (word == 'N' && row[0].matches(".*DM?")));
+                Scene.at(38, () -> tellers(row[0] + word));
+                Scene.asks(row[0] + " " + word, isWhole ? -1 : isFine ? length + 1 : length, x -> x.judge(0, length + 1));
+                if (!isFine) {
+                    Scene.at(38, () -> tellers(row[0] + word + "N"));
+                    Scene.asks(row[0] + " " + word + " N", length, x -> x.judge(0, length + 2));
+                }
+            }
+        }
+    }
+
+    /** BROTHERS of such words, and a ROW of them. */
+    private static VowOfOneWord tellers(String words) {
+        VowOfOneWord x = new VowOfOneWord();
+        int[] row = new int[words.length()];
+        for (int b = 0; b < row.length; b++) {
+            row[b] = x.brother("WNDMTA".indexOf(words.charAt(b)), 1, 0);
+        }
+        Scene.put(x, 0, row);
+        return x;
     }
 
     /** M N T D M N A N D N, of 0 to 9 in this order, and 8 the NAME that stands twice. */
