@@ -817,6 +817,19 @@ final class EdgesTest {
         Scene.asks("one MEANING", 1, x -> x.said(2, 0));
         Scene.asks("the least of one", 12, x -> x.said(2, 1));
         Scene.asks("the greatest of one", 12, x -> x.said(5, 2));
+        Scene.fine("none, once one is dead", 0, x -> after(x.said(5, 0), 1, after(x.dies(0), 1, x.said(5, 0))));
+        Scene.fine("none, once all are dead", 0, x -> {
+            int one = x.said(5, 0);
+            x.dies(0);
+            x.dies(1);
+            return after(one, 1, x.said(5, 0));
+        });
+        Scene.fine("one, once there is one who says it", 1, x -> {
+            x.dies(0);
+            int none = x.said(5, 0);
+            x.brother(1, 3, 0);
+            return after(none, 0, x.said(5, 0));
+        });
         // 0 1: 12; 2 1: 20; 0 1 2: 17; 2 1 0: 23
         Scene.at(21, () -> three(1, 5));
         Scene.asks("the greatest by 2, the last", 20, x -> x.said(2, 2));
@@ -1148,6 +1161,9 @@ final class EdgesTest {
         Scene.asks("the 10th: a NAME of 9", 19, x -> x.choice(0));
         Scene.asks("how many then", 8, x -> x.choice(1));
         Scene.at(34, EdgesTest::one);
+        Scene.fine("a 9", 19, x -> after(x.brother(2, 9, 0), 1, after(x.need(81), 0, x.choice(0))));
+        Scene.fine("no a is 10", 0, x -> after(x.brother(2, 9, 0), 1, after(x.need(90), 0, x.choice(0) + x.choice(1))));
+        Scene.fine("a 0", 10, x -> after(x.brother(2, 9, 0), 1, after(x.need(0), 0, x.choice(0))));
         // 0 alone can't be said by one more
         Scene.fine("one more isn't enough", 0, x -> after(x.need(0), 0, x.choice(0) + x.choice(1)));
     }
