@@ -211,11 +211,11 @@ public final class VowOfOneWord {
         }
         Sayings all = sayingsNow();
         int found = all.find(now, meaning, n, calm);
-        int length = found == NONE ? NONE : all.lengths[found];
+        int length = found == NONE ? NONE : all.lengthOf(found);
         if (i == NONE) {
             return length;
         }
-        return i < length ? Line.at(all.rows[found], i) : refuse(STUCK);
+        return i < length ? Line.at(all.rowOf(found), i) : refuse(STUCK);
     }
 
     public int said(int n, int what) {
@@ -351,7 +351,7 @@ public final class VowOfOneWord {
             return all.unlikeOf(set);
         }
         int found = all.firstOf(set);
-        return found == NONE ? NONE : Line.at(all.rows[found], 0);
+        return found == NONE ? NONE : Line.at(all.rowOf(found), 0);
     }
 
     public int meant(int set, int meaning) {
@@ -938,29 +938,53 @@ public final class VowOfOneWord {
         private static final int MOST_OF_HOUSE = 700;
         // Sayings of 6 mean -900 to 900.
         private static final int WIDEST = 1000;
+        private static final int MARKS = 32;
+
+        // A saying lies in one number, since a new object shall be small: from which bit on each part does.
+        private static final int LENGTH = 24;
+        private static final int MEMBERS = 27;
+        private static final int PLACE = 37;
+        private static final int MEANING = 40;
 
         private final int longest;
         private final int room;
         private int size;
-        final int[] rows;
-        final int[] lengths;
-        final int[] members;
-        final int[] meanings;
-        private final int[] places;
+        private final long[] packed;
         // How many sayings there are of so many brothers at most.
         private final int[] upTo = new int[TOGETHER + 1];
         private final int[] madeOf = new int[Rock.MOST_BROTHERS];
-        private final int[] marks = new int[2 * WIDEST + 1];
-        private int mark;
+        // Meanings that have come, a bit each.
+        private final long[] marks = new long[MARKS];
 
         Sayings(int longest) {
             this.longest = Math.min(longest, TOGETHER);
             room = longest <= HOUSE ? MOST_OF_HOUSE : MOST_OF_ALL;
-            rows = new int[room];
-            lengths = new int[room];
-            members = new int[room];
-            meanings = new int[room];
-            places = new int[room];
+            packed = new long[room];
+        }
+
+        /** The i-th saying; 0, which nobody says, of none. */
+        private long at(int i) {
+            return i >= 0 && i < size && i < room ? packed[i] : 0;
+        }
+
+        int rowOf(int i) {
+            return (int) at(i) & 0xffffff;
+        }
+
+        int lengthOf(int i) {
+            return (int) (at(i) >> LENGTH) & 7;
+        }
+
+        int membersOf(int i) {
+            return (int) (at(i) >> MEMBERS) & 1023;
+        }
+
+        private int placeOf(int i) {
+            return (int) (at(i) >> PLACE) & 7;
+        }
+
+        int meaningOf(int i) {
+            return (int) (at(i) >> MEANING) - WIDEST;
         }
 
         void update(Rock rock) {
@@ -970,7 +994,8 @@ public final class VowOfOneWord {
             for (int b = 0; b < Rock.MOST_BROTHERS; b++) {
                 madeOf[b] = wordOf(rock, b);
             }
-            begin();
+            size = 0;
+            add(0, 0, 0, Grammar.START);
             for (int i = 0; i < size && i < room; i++) {
                 goOn(rock, i);
             }
@@ -990,44 +1015,37 @@ public final class VowOfOneWord {
             return true;
         }
 
-        private void begin() {
-            rows[0] = 0;
-            lengths[0] = 0;
-            members[0] = 0;
-            places[0] = Grammar.START;
-            size = 1;
-        }
-
-        /** Rows come behind by length and in order, because those that they go on from are so. */
-        private void goOn(Rock rock, int i) {
-            for (int b = 0; b < rock.brothers; b++) {
-                if (!rock.isLiving(b) || (members[i] >> b & 1) != 0) {
-                    continue;
-                }
-                int place = Grammar.next(places[i], rock.kinds[b]);
-                if (place == NONE || lengths[i] + 1 + Grammar.wants(place) > longest || size >= room) {
-                    continue;
-                }
-                rows[size] = (int) Line.with(rows[i], lengths[i], b);
-                lengths[size] = lengths[i] + 1;
-                members[size] = members[i] | 1 << b;
-                places[size] = place;
+        private void add(long row, int length, int members, int place) {
+            if (size < room) {
+                packed[size] = row | (long) length << LENGTH | (long) members << MEMBERS | (long) place << PLACE;
                 size++;
             }
         }
 
+        /** Rows come behind by length and in order, because those that they go on from are so. */
+        private void goOn(Rock rock, int i) {
+            int length = lengthOf(i);
+            for (int b = 0; b < rock.brothers; b++) {
+                if (!rock.isLiving(b) || (membersOf(i) >> b & 1) != 0) {
+                    continue;
+                }
+                int place = Grammar.next(placeOf(i), rock.kinds[b]);
+                if (place != NONE && length + 1 + Grammar.wants(place) <= longest) {
+                    add(Line.with(rowOf(i), length, b), length + 1, membersOf(i) | 1 << b, place);
+                }
+            }
+        }
+
         private void keepWhole(Rock rock) {
-            int whole = 0;
             for (int n = 0; n <= TOGETHER; n++) {
                 upTo[n] = 0;
             }
+            int whole = 0;
             for (int i = 0; i < size && i < room; i++) {
-                if (Grammar.mayEnd(places[i])) {
-                    rows[whole] = rows[i];
-                    lengths[whole] = lengths[i];
-                    members[whole] = members[i];
-                    meanings[whole] = Line.meaning(rock, rows[i], lengths[i]);
-                    upTo[lengths[i]]++;
+                if (Grammar.mayEnd(placeOf(i))) {
+                    long meaning = Line.meaning(rock, rowOf(i), lengthOf(i)) + WIDEST;
+                    upTo[Math.min(lengthOf(i), TOGETHER)]++;
+                    packed[whole] = packed[i] | meaning << MEANING;
                     whole++;
                 }
             }
@@ -1042,12 +1060,12 @@ public final class VowOfOneWord {
         }
 
         private boolean isCalm(Rock rock, int i) {
-            return Line.feuds(rock, rows[i], lengths[i]) == 0;
+            return Line.feuds(rock, rowOf(i), lengthOf(i)) == 0;
         }
 
         int find(Rock rock, int meaning, int n, boolean calm) {
             for (int i = 0; i < upTo(n); i++) {
-                if (meanings[i] == meaning && (!calm || isCalm(rock, i))) {
+                if (meaningOf(i) == meaning && (!calm || isCalm(rock, i))) {
                     return i;
                 }
             }
@@ -1065,35 +1083,35 @@ public final class VowOfOneWord {
         int most(Rock rock, boolean calm) {
             for (int i = upTo(longest) - 1; i >= 0; i--) {
                 if (!calm || isCalm(rock, i)) {
-                    return lengths[i];
+                    return lengthOf(i);
                 }
             }
             return 0;
         }
 
         int least(int n) {
-            int least = upTo(n) > 0 ? meanings[0] : 0;
+            int least = upTo(n) > 0 ? meaningOf(0) : 0;
             for (int i = 1; i < upTo(n); i++) {
-                least = Math.min(least, meanings[i]);
+                least = Math.min(least, meaningOf(i));
             }
             return least;
         }
 
         int greatest(int n) {
-            int greatest = upTo(n) > 0 ? meanings[0] : 0;
+            int greatest = upTo(n) > 0 ? meaningOf(0) : 0;
             for (int i = 1; i < upTo(n); i++) {
-                greatest = Math.max(greatest, meanings[i]);
+                greatest = Math.max(greatest, meaningOf(i));
             }
             return greatest;
         }
 
         int closest(int n, int meaning) {
-            int best = upTo(n) > 0 ? meanings[0] : 0;
+            int best = upTo(n) > 0 ? meaningOf(0) : 0;
             for (int i = 1; i < upTo(n); i++) {
-                int far = Math.abs(meanings[i] - meaning);
+                int far = Math.abs(meaningOf(i) - meaning);
                 int fewest = Math.abs(best - meaning);
-                if (far < fewest || (far == fewest && meanings[i] < best)) {
-                    best = meanings[i];
+                if (far < fewest || (far == fewest && meaningOf(i) < best)) {
+                    best = meaningOf(i);
                 }
             }
             return best;
@@ -1102,7 +1120,7 @@ public final class VowOfOneWord {
         int beginners(int n) {
             int set = 0;
             for (int i = 0; i < upTo(n); i++) {
-                set |= 1 << Line.at(rows[i], 0);
+                set |= 1 << Line.at(rowOf(i), 0);
             }
             return set;
         }
@@ -1110,7 +1128,7 @@ public final class VowOfOneWord {
         int enders(int n) {
             int set = 0;
             for (int i = 0; i < upTo(n); i++) {
-                set |= 1 << Line.at(rows[i], lengths[i] - 1);
+                set |= 1 << Line.at(rowOf(i), lengthOf(i) - 1);
             }
             return set;
         }
@@ -1118,50 +1136,56 @@ public final class VowOfOneWord {
         int standing(int n) {
             int set = 0;
             for (int i = 0; i < upTo(n); i++) {
-                set |= members[i];
+                set |= membersOf(i);
             }
             return set;
         }
 
         int unlike(int n) {
-            mark++;
+            forgetMarks();
             int count = 0;
             for (int i = 0; i < upTo(n); i++) {
-                count += isNew(meanings[i]) ? 1 : 0;
+                count += isNew(meaningOf(i)) ? 1 : 0;
             }
             return count;
         }
 
-        /** Whether a meaning comes for the first time under this mark. */
+        private void forgetMarks() {
+            for (int i = 0; i < MARKS; i++) {
+                marks[i] = 0;
+            }
+        }
+
+        /** Whether a meaning comes for the first time since the marks were forgotten. */
         private boolean isNew(int meaning) {
             int place = meaning + WIDEST;
-            if (place < 0 || place >= marks.length || marks[place] == mark) {
+            if (place < 0 || place >> 6 >= MARKS || (marks[place >> 6] >> (place & 63) & 1) != 0) {
                 return false;
             }
-            marks[place] = mark;
+            marks[place >> 6] |= 1L << (place & 63);
             return true;
         }
 
         int countOf(int set) {
             int count = 0;
             for (int i = 0; i < upTo(longest); i++) {
-                count += members[i] == set ? 1 : 0;
+                count += membersOf(i) == set ? 1 : 0;
             }
             return count;
         }
 
         int unlikeOf(int set) {
-            mark++;
+            forgetMarks();
             int count = 0;
             for (int i = 0; i < upTo(longest); i++) {
-                count += members[i] == set && isNew(meanings[i]) ? 1 : 0;
+                count += membersOf(i) == set && isNew(meaningOf(i)) ? 1 : 0;
             }
             return count;
         }
 
         int firstOf(int set) {
             for (int i = 0; i < upTo(longest); i++) {
-                if (members[i] == set) {
+                if (membersOf(i) == set) {
                     return i;
                 }
             }
@@ -1170,7 +1194,7 @@ public final class VowOfOneWord {
 
         boolean mayMean(int set, int meaning) {
             for (int i = 0; i < upTo(longest); i++) {
-                if (members[i] == set && meanings[i] == meaning) {
+                if (membersOf(i) == set && meaningOf(i) == meaning) {
                     return true;
                 }
             }
@@ -1180,7 +1204,7 @@ public final class VowOfOneWord {
         /** Whether a meaning can be said by so many at most, none of them of a set. */
         boolean canMeanWithout(int meaning, int n, int set) {
             for (int i = 0; i < upTo(n); i++) {
-                if (meanings[i] == meaning && (members[i] & set) == 0) {
+                if (meaningOf(i) == meaning && (membersOf(i) & set) == 0) {
                     return true;
                 }
             }
@@ -1278,9 +1302,9 @@ public final class VowOfOneWord {
             guesses.update(trial);
             trial.amounts[b] = 1;
             for (int i = 0; i < guesses.upTo(HOUSE); i++) {
-                if ((guesses.members[i] >> b & 1) != 0) {
-                    int meaning = guesses.meanings[i];
-                    int more = Line.meaning(trial, guesses.rows[i], guesses.lengths[i]) - meaning;
+                if ((guesses.membersOf(i) >> b & 1) != 0) {
+                    int meaning = guesses.meaningOf(i);
+                    int more = Line.meaning(trial, guesses.rowOf(i), guesses.lengthOf(i)) - meaning;
                     for (int a = 0; a < AMOUNTS; a++) {
                         metBy[a] |= trial.needsOf(meaning + a * more);
                     }
@@ -1293,7 +1317,7 @@ public final class VowOfOneWord {
                 gains[pair] = 0;
             }
             for (int i = all.upTo(n - 1); i < all.upTo(n); i++) {
-                int pair = Line.onlyFeud(rock, all.rows[i], n);
+                int pair = Line.onlyFeud(rock, all.rowOf(i), n);
                 if (pair >= 0 && pair < PAIRS) {
                     gains[pair]++;
                 }

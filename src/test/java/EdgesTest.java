@@ -51,6 +51,7 @@ final class EdgesTest {
         mightiest();
         choice();
         choiceAgain();
+        choiceByTheLast();
         lost();
         ran();
         meant();
@@ -1184,6 +1185,44 @@ final class EdgesTest {
             x.brother(1, 9, 0);
             return after(first, 1, x.choice(1));
         });
+    }
+
+    private static void choiceByTheLast() {
+        // 10 can begin SAYINGS of 5 in no more ways; 73 = (1 + 1) * 7 * 5 + (2 + 1) * 1 is said by the last by rows alone
+        Scene.at(34, EdgesTest::threeManyTwoDeedsFourNames);
+        Scene.asks("a MANY of 1", 31, x -> x.choice(0));
+        Scene.asks("how many then, by the last by rows", 1, x -> x.choice(1));
+        Scene.asks("how many have it now", 0, x -> x.met());
+        Scene.fine("the last by rows", 98427, x -> {
+            x.brother(3, 1, 0);
+            int row = 0;
+            for (int i = 0; i < 5; i++) {
+                row = 10 * row + x.shortest(73, 5, false, i);
+            }
+            return row;
+        });
+        // 101 = 8 * 7 + 9 * 5, in two CLAUSES, either of them ahead
+        Scene.at(34, EdgesTest::threeDeedsFourNamesTwoAnds);
+        Scene.asks("a NAME of 8", 18, x -> x.choice(0));
+        Scene.asks("how many then, in two CLAUSES", 1, x -> x.choice(1));
+    }
+
+    private static VowOfOneWord threeManyTwoDeedsFourNames() {
+        return ofWords(73, 30, 30, 32, 20, 25, 10, 10, 11, 17);
+    }
+
+    /** With one more NAME there are many more beginnings of SAYINGS of 6 than of those of 5. */
+    private static VowOfOneWord threeDeedsFourNamesTwoAnds() {
+        return ofWords(101, 20, 25, 27, 10, 10, 10, 19, 50, 50);
+    }
+
+    private static VowOfOneWord ofWords(int need, int... words) {
+        VowOfOneWord x = new VowOfOneWord();
+        for (int word : words) {
+            x.brother(word / 10, word % 10, 0);
+        }
+        x.need(need);
+        return x;
     }
 
     /** 8 DEEDS of 9 and a WORD; 8 NEEDS of 81. */

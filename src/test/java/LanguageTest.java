@@ -1,4 +1,5 @@
 import java.io.IOException;
+import java.lang.reflect.Array;
 import java.lang.reflect.Constructor;
 import java.lang.reflect.Field;
 import java.lang.reflect.Method;
@@ -7,7 +8,9 @@ import java.nio.file.Files;
 import java.nio.file.Path;
 import java.util.ArrayList;
 import java.util.HashSet;
+import java.util.IdentityHashMap;
 import java.util.List;
+import java.util.Map;
 import java.util.Set;
 import java.util.regex.Matcher;
 import java.util.regex.Pattern;
@@ -32,6 +35,9 @@ final class LanguageTest {
         "\\bprotected\\b", "\\bnative\\b", "\\bvar\\b", "\\bMAX_VALUE\\b", "\\bMIN_VALUE\\b", "\\bMap\\b", "\\bSet\\b",
     };
     private static final int LONGEST_METHOD = 60;
+    private static final long MOST_CALLS = 512;
+    private static final long MOST_OBJECTS = 600000;
+    private static final long MOST_ELEMENTS = 7300000;
 
     private LanguageTest() {
     }
@@ -41,7 +47,8 @@ final class LanguageTest {
         face();
         insides();
         words(text);
-        methodLengths(text);
+        methods(text);
+        room();
         Due.end("LanguageTest");
     }
 
@@ -107,16 +114,75 @@ final class LanguageTest {
         }
     }
 
-    private static void methodLengths(String text) {
+    /** Methods are told by how far in they stand: each ends with the first brace as far in as its own first line. */
+    private static void methods(String text) {
         String[] lines = text.split("\n");
+        int found = 0;
         int from = -1;
+        String margin = "";
         for (int i = 0; i < lines.length; i++) {
-            if (lines[i].matches(" {4}( {4})?\\S.*\\) \\{") && !lines[i].trim().matches("(if|for|while|switch|else).*")) {
+            if (from < 0 && lines[i].matches(" {4}( {4})?[a-zA-Z].*\\(.*\\) \\{")) {
                 from = i;
-            } else if (from >= 0 && lines[i].matches(" {4}( {4})?\\}")) {
-                Due.that("rule 11: " + lines[from], i - from + 1 <= LONGEST_METHOD);
+                margin = lines[i].replaceAll("\\S.*", "");
+            } else if (from >= 0 && lines[i].equals(margin + "}")) {
+                method(List.of(lines).subList(from, i + 1));
+                found++;
                 from = -1;
             }
+        }
+        int declared = 0;
+        List<Class<?>> classes = new ArrayList<>(List.of(VowOfOneWord.class.getDeclaredClasses()));
+        classes.add(VowOfOneWord.class);
+        for (Class<?> c : classes) {
+            for (Method m : c.getDeclaredMethods()) {
+                declared += m.isSynthetic() ? 0 : 1;
+            }
+        }
+        Due.that("methods and constructors in the text: " + found + ", methods: " + declared,
+            from < 0 && found >= declared && found <= declared + classes.size());
+    }
+
+    private static void method(List<String> lines) {
+        String head = lines.get(0).trim();
+        Due.that("rule 11: " + head, lines.size() <= LONGEST_METHOD);
+        boolean makes = String.join("\n", lines).replaceAll("//[^\n]*", "").matches("(?s).*\\bnew\\b.*");
+        Due.that("a call makes something: " + head, !makes || head.matches("(public )?[A-Z]\\w*\\(.*"));
+    }
+
+    /** No call makes anything (method() looks), so the dearest is the constructor: all calls of a run may be it. */
+    private static void room() {
+        Map<Object, Object> seen = new IdentityHashMap<>();
+        long elements = elementsOf(new VowOfOneWord(), seen);
+        Due.that("the room: " + seen.size() + " objects each", seen.size() * MOST_CALLS <= MOST_OBJECTS);
+        Due.that("the room: " + elements + " elements each", elements * MOST_CALLS <= MOST_ELEMENTS);
+    }
+
+    private static long elementsOf(Object o, Map<Object, Object> seen) {
+        if (o == null || o instanceof String || seen.put(o, o) != null) {
+            return 0;
+        }
+        long elements = 0;
+        if (o.getClass().isArray()) {
+            elements = Array.getLength(o);
+            for (int i = 0; i < Array.getLength(o) && o instanceof Object[]; i++) {
+                elements += elementsOf(Array.get(o, i), seen);
+            }
+            return elements;
+        }
+        for (Field f : o.getClass().getDeclaredFields()) {
+            if (!Modifier.isStatic(f.getModifiers())) {
+                elements += 1 + (f.getType().isPrimitive() ? 0 : elementsOf(valueOf(f, o), seen));
+            }
+        }
+        return elements;
+    }
+
+    private static Object valueOf(Field f, Object o) {
+        try {
+            f.setAccessible(true);
+            return f.get(o);
+        } catch (IllegalAccessException e) {
+            throw new IllegalStateException(e);
         }
     }
 }
